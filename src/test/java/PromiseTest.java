@@ -94,6 +94,8 @@ public final class PromiseTest {
         same("count 3", x.count(3), 2);
         x.force(1);
         same("count 4", x.count(4), 1);
+        x.lay(0, 100);
+        same("count of cell 0, too", x.count(2), 999 + 4 + 100 + 10);
         same("count -1", x.count(-1), -2);
         same("count 6", x.count(6), -2);
     }
@@ -250,6 +252,12 @@ public final class PromiseTest {
         soundLeaves("not not (((1))) or (((((1)))))");
         soundLeaves("not - - - - 1 < - - - - 1");
         faultOfLeaves("not - - - - 1 < - - - - - 1;", 24);
+        fault("a".repeat(160), 0);
+        fault("7".repeat(160), 0);
+        fault(" ".repeat(160), 160);
+        fault("leaves " + "1+".repeat(76) + "1", 160);
+        fault("leaves 1;" + " ".repeat(143) + "wears 12", 160);
+        sound("leaves " + "1+".repeat(66) + "1;wears 1;feels 1;  ");
         soundLeaves("9999+0000");
         sound("\n leaves(1);wears 1;feels 1;\n\n");
         sound("leaves 1or 1and 1<1+1*1;wears not 1;feels not-1;");
@@ -451,6 +459,8 @@ public final class PromiseTest {
         child.person(20, 2200);
         same("child", child.day(), 1);
         same("child", child.under(7), 1);
+        child.put(1, 1, 1);
+        same("child, of the least", child.leaves(1, 22, 0), 1);
 
         UnderlayOfUnspoken widow = fresh();
         widow.person(34, 3505);
@@ -506,6 +516,8 @@ public final class PromiseTest {
         same("leaves what", x.leaves(0, 0, 2), -1007);
         same("leaves what", x.leaves(0, 0, -1), -1007);
         // 5 and 6 are neighbours by number, but in other rows.
+        x.put(0, 0, 0);
+        same("leaves from the first cell", x.leaves(0, 0, 1), 41);
         x.put(0, 0, 5);
         same("leaves", x.leaves(0, 6, 0), 0);
         same("leaves", x.leaves(0, 0, 1), 41);
@@ -534,6 +546,9 @@ public final class PromiseTest {
         Checks.text(x, "leaves day;wears 1;feels 1;");
         x.force(1);
         same("run by day", x.run(4, 7), 5 + 0 + 1 + 2 + 3);
+        x.lay(0, 2);
+        same("run of cell 0", x.run(4, 0), 2);
+        same("run of all", x.run(4, 36), 5 + 6 + 2);
     }
 
     // Promise 15
@@ -632,6 +647,10 @@ public final class PromiseTest {
         same("tread", x.under(8), 48);
         x.sheet(1, 0, 0);
         same("tread of none", x.tread(1, 0), 0);
+        x.lay(0, 9);
+        x.lay(7, 9);
+        same("tread of its cells alone", x.tread(0, 0), 5);
+        same("tread of its cells alone", x.under(0), 9);
         wornByKinds();
         // A widow wears once the cell is no more than 50 thick, told step by step.
         UnderlayOfUnspoken w = fresh();
@@ -688,6 +707,10 @@ public final class PromiseTest {
         same("way", x.way(0, 1400, 999, 1), 5);
         same("way to the next", x.way(0, 1, 0, 0), 10);
         same("way to the next", x.way(0, 203, 5, 1), -1);
+        same("way from the first cell", x.way(0, 0, 5, 1), 1);
+        same("way to the first cell", x.way(0, 100, 0, 0), 10);
+        same("way of the last cell", x.way(0, 3535, 0, 0), 5);
+        same("way past it", x.way(0, 3536, 0, 0), -7);
         same("way p", x.way(1, 4, 0, 0), -5);
         same("way cells", x.way(0, 36, 0, 0), -7);
         same("way cells", x.way(0, 99, 0, 0), -7);
@@ -719,6 +742,9 @@ public final class PromiseTest {
         same("heap", x.heap(35, 0, 0), ALL_CELLS);
         same("heap", x.heap(0, 0, 1), 36);
         same("heap", x.heap(0, 0, 2), 110);
+        x.lay(0, 1);
+        same("heap of cell 0, too", x.heap(0, 0, 2), 111);
+        same("heap of cell 0, too", x.heap(0, 1, 0), 1L | 1L << 6 | 1L << 7 | 1L << 13);
         same("heap c", x.heap(36, 0, 0), NO);
         same("heap c", x.heap(-1, 0, 0), NO);
         same("heap least", x.heap(0, 1000, 0), NO);
@@ -787,6 +813,8 @@ public final class PromiseTest {
         same("turn", x.turn(0, 1), 8);
         same("turn", x.turn(2, 0), 1);
         same("turn", x.turn(2, 1), 10 + 40);
+        x.lay(0, 4);
+        same("turn, cell 0, too", x.turn(2, 1), 10 + 40 + 4);
         same("turn n", x.turn(41, 0), -2);
         same("turn n", x.turn(-1, 0), -2);
         same("turn what", x.turn(0, 2), -2);
@@ -1000,6 +1028,8 @@ public final class PromiseTest {
             }
         }
         same("drawn wears in thought only", x.count(2), 40);
+        same("drawn from the first cell", x.drawn(0, 0, 0, 1), 0);
+        same("drawn from the last cell", x.drawn(0, 0, 3599, 1), goneBy(0, 35, 99));
         same("drawn seed", x.drawn(-1, 0, 0, 0), -7);
         same("drawn seed", x.drawn(100000, 0, 0, 0), -7);
         same("drawn cellSteps", x.drawn(0, 0, 3600, 0), -7);
@@ -1048,6 +1078,8 @@ public final class PromiseTest {
         same("odds never", x.odds(140, 0, 1410, 99999, 1), 1);
         same("odds always", x.odds(140, 0, 1410, 0, 0), 1);
         same("odds always", x.odds(140, 0, 1410, 0, 1), 1);
+        same("odds of one from the first cell", x.odds(1, 0, 0, 1, 1), 1);
+        same("odds from the last cell", x.odds(1, 0, 3599, 0, 0), 1);
         same("odds last seed", x.odds(9999940, 0, 1410, 0, 1), 1);
         same("odds seeds", x.odds(500, 0, 1410, 0, 0), NO);
         same("odds seeds", x.odds(541, 0, 1410, 0, 0), NO);
