@@ -10,6 +10,8 @@ public final class UnderlayOfUnspoken {
     private static final int GRANTED = 0;
 
     private static final int CELLS = 36, SIDE = 6, DIRECTIONS = 4;
+    // More than any way can feel: 36 cells of at most 198.
+    private static final int UNREACHED = 1000000;
     private static final int MOST_PEOPLE = 6, MOST_TEXTS = 6, KINDS = 6, MORES = 10, HELDS = 100;
     private static final int MOST_THICK = 999, LAST_DAY = 999;
     private static final int MOST_DAYS = 40, MOST_TOLD_DAYS = 20;
@@ -828,7 +830,7 @@ public final class UnderlayOfUnspoken {
             for (int c = 0; c < CELLS; c++) {
                 costs[c] = felt(p, c);
             }
-            Arrays.fill(sums, Integer.MAX_VALUE);
+            Arrays.fill(sums, UNREACHED);
             sums[from] = costs[from];
             boolean changed = true;
             for (int round = 0; round < CELLS && changed; round++) {
@@ -846,7 +848,7 @@ public final class UnderlayOfUnspoken {
             boolean changed = false;
             for (int direction = 0; direction < DIRECTIONS; direction++) {
                 int ahead = neighbour(c, direction);
-                if (ahead != NONE && sums[ahead] != Integer.MAX_VALUE && sums[ahead] + costs[c] < sums[c]) {
+                if (ahead != NONE && sums[ahead] != UNREACHED && sums[ahead] + costs[c] < sums[c]) {
                     sums[c] = sums[ahead] + costs[c];
                     changed = true;
                 }
