@@ -9,7 +9,7 @@ public final class EdgeTest {
     private static final long NO = -4611686018427387904L;
     private static final long ALL_CELLS = (1L << 36) - 1;
     private static final int PERSON = 0, AUNT = 10, CHILD = 20, WIDOW = 30, TALKER = 40, CALLER = 50;
-    private static final int FIVE_HUNDRED = 512;
+    private static final int PROMISED_CALLS = 512;
     private static final Checks DUE = new Checks();
 
     public static void main(String[] args) {
@@ -339,6 +339,7 @@ public final class EdgeTest {
     private static void days() {
         aheadOfTheTurn();
         dayIsOneMore();
+        lastDay();
         noDays();
         sinksAtTheEdges();
     }
@@ -367,13 +368,13 @@ public final class EdgeTest {
         same("DAY is 1 more only behind all", z.day(), 6);
     }
 
-    // then DAY is 1 more (and never 999 within the calls that are promised)
+    // then DAY is 1 more
     private static void dayIsOneMore() {
         UnderlayOfUnspoken x = fresh();
-        for (int call = 1; call < FIVE_HUNDRED; call++) {
+        for (int call = 1; call < PROMISED_CALLS; call++) {
             same("a day without people", x.day(), 0);
         }
-        same("DAY", x.count(1), FIVE_HUNDRED - 1);
+        same("DAY", x.count(1), PROMISED_CALLS - 1);
         UnderlayOfUnspoken y = under("(500<day)*7", "0", "0");
         y.person(PERSON, 0);
         for (int day = 1; day <= 490; day++) {
@@ -382,6 +383,31 @@ public final class EdgeTest {
         same("DAY goes on in thought", y.run(40, 0), 29 * 7);
         same("DAY goes on in thought", y.sinks(0, 1), 12);
         same("DAY is as it was", y.count(1), 490);
+    }
+
+    // DAY (0 .. 999; in thought it may pass 999); STATE: DAY is 999.
+    private static void lastDay() {
+        // What an object answers behind 512 calls is free; but only so DAY comes to 999, and the class goes on alike.
+        UnderlayOfUnspoken x = under("(997<day)*(day-997)", "0", "0");
+        x.person(PERSON, 0);
+        for (int day = 1; day <= 998; day++) {
+            x.day();
+        }
+        same("DAY 998", x.count(1), 998);
+        same("the last day passes", x.day(), 1);
+        same("DAY 999", x.count(1), 999);
+        same("no further day", x.day(), -3);
+        same("no further day", x.day(), -3);
+        same("DAY stays", x.count(1), 999);
+        same("nothing was left", x.under(0), 1);
+        same("in thought DAY passes 999", x.run(1, 0), 1 + 2);
+        same("in thought DAY passes 999", x.run(3, 0), 1 + 2 + 3 + 4);
+        same("in thought DAY passes 999", x.sinks(0, 10), 3);
+        same("in thought DAY passes 999", x.film(0, 0, 20), 20);
+        same("in thought DAY passes 999", x.judge(0, 0), -1);
+        x.image();
+        same("back to DAY 999", x.back(), 1);
+        same("still no further day", x.day(), -3);
     }
 
     // n DAYS (0 .. 40)
@@ -622,6 +648,16 @@ public final class EdgeTest {
         same("shut in at the text's bound", x.way(0, 35, 197, 1), -1);
         same("shut in at the text's bound", x.way(0, 35, 198, 1), 11);
         same("least through it", x.way(0, 35, 0, 0), 20 + 198);
+        // The first and the last cell of all are felt as well, where nothing else is in the way.
+        for (int end : new int[] {0, 35}) {
+            UnderlayOfUnspoken z = fresh();
+            z.person(PERSON, 0);
+            z.lay(end, 1);
+            same("from it", z.way(0, 100 * end + 14, 0, 1), -1);
+            same("to it", z.way(0, 1400 + end, 0, 1), -1);
+            same("from it to it", z.way(0, 101 * end, 0, 1), -1);
+            same("just so", z.way(0, 1400 + end, 1, 1), end == 0 ? 5 : 7);
+        }
         UnderlayOfUnspoken y = fresh();
         y.person(PERSON, 0);
         same("nothing is felt anywhere", y.way(0, 3500, 0, 1), 11);
@@ -1029,17 +1065,17 @@ public final class EdgeTest {
         UnderlayOfUnspoken x = under("0", "thick-3", "thick");
         x.person(PERSON, 0);
         x.lay(14, 20);
-        int[] visits = new int[1];
+        int visits = 0;
         int felt = 0;
         int thick = 20;
         for (int i = 0; i < 40; i++) {
             if (goneBy(8, 14, i) == 14) {
-                visits[0]++;
+                visits++;
                 felt += thick;
                 thick = Math.max(0, thick - Math.max(0, thick - 3));
             }
         }
-        DUE.holds("more than once there", visits[0] > 1);
+        DUE.holds("more than once there", visits > 1);
         same("felt, then worn", x.drawn(8, 0, 1440, 0), felt);
         UnderlayOfUnspoken y = under("0", "99", "thick");
         y.person(CALLER + 9, 0);
@@ -1049,10 +1085,10 @@ public final class EdgeTest {
         UnderlayOfUnspoken w = under("0", "1", "thick");
         w.person(WIDOW, 0);
         w.lay(14, 51);
-        same("a widow wears nothing beyond 50", w.drawn(8, 0, 1440, 0), 51 * visits[0]);
+        same("a widow wears nothing beyond 50", w.drawn(8, 0, 1440, 0), 51 * visits);
         w.lay(14, 50);
         int worn = 0;
-        for (int i = 0; i < visits[0]; i++) {
+        for (int i = 0; i < visits; i++) {
             worn += 50 - i;
         }
         same("a widow wears at 50", w.drawn(8, 0, 1440, 0), worn);

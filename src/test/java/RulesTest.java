@@ -99,6 +99,12 @@ public final class RulesTest {
         while (imports.find()) {
             DUE.holds("import " + imports.group(1), imports.group(1).equals("java.util.Arrays"));
         }
+        Matcher library = Pattern.compile("\\b(?:Integer|Long|Math|System|Arrays|String|StringBuilder)\\.\\w+").matcher(code);
+        Set<String> allowed = Set.of("Math.abs", "Math.max", "Math.min", "Long.bitCount", "System.arraycopy",
+            "Arrays.fill", "Arrays.copyOf");
+        while (library.find()) {
+            DUE.holds("the library's " + library.group(), allowed.contains(library.group()));
+        }
         DUE.holds("no byte above 127", code.chars().allMatch(c -> c < 128));
     }
 

@@ -22,6 +22,7 @@ public final class TextTest {
         openInEachPart();
         sizes();
         sixTexts();
+        oneBehindAnother();
         bounds();
         whatIsTrue();
         wraps();
@@ -298,6 +299,27 @@ public final class TextTest {
         DUE.same("TEXT 0 feels", x.asks(2, 0, 3), 98);
         x.lay(3, 100);
         DUE.same("TEXT 0 feels 99 at most", x.asks(2, 0, 3), 99);
+    }
+
+    // THE TAPE, which is empty then (by a FAULT, too): nothing of a text is left to the next one.
+    private static void oneBehindAnother() {
+        UnderlayOfUnspoken x = new UnderlayOfUnspoken();
+        x.person(0, 0);
+        String many = "leaves " + "1+".repeat(67) + "11" + REST;
+        for (int t = 1; t <= 5; t++) {
+            DUE.same("a long fault ahead of " + t, Checks.text(x, many.replace("feels 1", "feels +")), -258);
+            DUE.same("the tape is empty", x.count(5), 0);
+            DUE.same("a short fault ahead of " + t, Checks.text(x, "leaves ((("), -110);
+            DUE.same("the tape is empty", x.count(5), 0);
+            DUE.same("a long text " + t, Checks.text(x, t % 2 == 0 ? many : "leaves 7+" + t + ";wears 1;feels 2;"), t);
+            DUE.same("the tape is empty", x.count(5), 0);
+        }
+        for (int t = 1; t <= 5; t++) {
+            x.force(t);
+            DUE.same("text " + t + " leaves", x.asks(0, 0, 0), t % 2 == 0 ? 78 : 7 + t);
+            DUE.same("text " + t + " wears", x.asks(1, 0, 0), 1);
+            DUE.same("text " + t + " feels", x.asks(2, 0, 0), t % 2 == 0 ? 1 : 2);
+        }
     }
 
     /** What all three parts say, as they come out of the bounds. */
