@@ -1266,30 +1266,19 @@ public final class UnderlayOfUnspoken {
             while (next < size && isLetter(tape[next])) {
                 next++;
             }
-            int word = wordNumber();
-            if (word < 0) {
-                token = FAULTY;
-            } else if (word < KEYS) {
-                token = LEAVES + word;
-            } else {
-                token = NAME;
-                worth = word - KEYS;
-            }
-        }
-
-        private int wordNumber() {
+            token = FAULTY;
             int number = 0;
             int from = 0;
             for (int i = 0; i < WORDS.length(); i++) {
                 if (WORDS.charAt(i) == ' ') {
                     if (isWord(from, i)) {
-                        return number;
+                        token = number < KEYS ? LEAVES + number : NAME;
+                        worth = number - KEYS;
                     }
                     number++;
                     from = i + 1;
                 }
             }
-            return NONE;
         }
 
         private boolean isWord(int from, int to) {
